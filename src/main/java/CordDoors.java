@@ -1007,32 +1007,37 @@ public final class CordDoors {
         /** Told from the goal back: all spots that could be are looked at until nothing becomes less. */
         int fromHallBack(Loom loom, int start, int keySet, int goal) {
             Arrays.fill(fewest, UNKNOWN);
-            for (int openDoors = 0; openDoors <= ALL_DOORS; openDoors++) {
-                fewest[spot(openDoors, goal)] = 0;
-            }
             // Without a key no shut door opens.
-            int everOpen = start / HALLS | keySet;
+            lineUpSets(loom, start / HALLS | keySet);
+            for (int next = 0; next < inLine && next < SPOTS; next++) {
+                fewest[spot(line[next], goal)] = 0;
+            }
             int lessened = 1;
             // A way passes no spot twice, so there are fewer rounds than spots.
             for (int round = 0; round < SPOTS && lessened > 0; round++) {
                 lessened = 0;
-                for (int openDoors = 0; openDoors <= ALL_DOORS; openDoors++) {
-                    if ((openDoors & ~everOpen) == 0) {
-                        lessened += lessenAll(loom, openDoors, keySet);
-                    }
+                for (int next = 0; next < inLine && next < SPOTS; next++) {
+                    lessened += lessenAll(loom, line[next], keySet);
                 }
             }
             return fewest[start] == UNKNOWN ? NOT_FOUND : fewest[start];
         }
 
+        /** Puts the sets of doors in line that could be open, if no other doors than these ever are. */
+        private void lineUpSets(Loom loom, int everOpen) {
+            inLine = 0;
+            for (int openDoors = 0; openDoors <= ALL_DOORS; openDoors++) {
+                boolean noOther = (openDoors & ~everOpen) == 0;
+                if (noOther && (loom.heldBy(openDoors) & openDoors) == 0) {
+                    line[inLine] = openDoors;
+                    inLine++;
+                }
+            }
+        }
+
         /** Looks at all halls with these doors open; answers how often a number became less. */
         private int lessenAll(Loom loom, int openDoors, int keySet) {
-            int held = loom.heldBy(openDoors);
-            // A held door is shut, so such doors are never open together.
-            if ((held & openDoors) != 0) {
-                return 0;
-            }
-            int couldOpen = keySet & ~openDoors & ~held;
+            int couldOpen = keySet & ~openDoors & ~loom.heldBy(openDoors);
             int lessened = 0;
             for (int door = 0; door < DOORS; door++) {
                 int one = loom.lesserHall(door);

@@ -7,6 +7,7 @@ public final class HistoryTest {
         undoAtMostFour();
         undoLeavesPadAndSnapshot();
         saveAndRestore();
+        accountsAreRestored();
         restoreIsAChange();
         looksOfAllKinds();
         CHECK.end("HistoryTest");
@@ -146,6 +147,31 @@ public final class HistoryTest {
         x.open(8);
         CHECK.same("it stays", x.restore(), 20);
         CHECK.holds("as when saved, again", Setup.look(x).equals(snapshotted));
+    }
+
+    private static void accountsAreRestored() {
+        CordDoors x = Setup.withoutCords();
+        x.draft(1);
+        x.cord(0, false, 3);
+        x.save();
+        String before = Setup.look(x);
+        x.open(6);
+        x.open(3);
+        x.open(0);
+        x.open(0);
+        x.walk(0, 0);
+        x.shut(0);
+        for (int what = 7; what <= 10; what++) {
+            CHECK.holds("count(" + what + ") is not 0", x.count(what) > 0);
+        }
+        CHECK.same("refused", x.count(11), 1);
+        x.restore();
+        CHECK.holds("all accounts are restored", before.equals(Setup.look(x)));
+        x.undo();
+        CHECK.same("by drafts, undone", x.count(10), 1);
+        CHECK.same("by cords, undone", x.count(9), 1);
+        CHECK.same("refused, undone", x.count(11), 1);
+        CHECK.same("walks, undone", x.guest(0, 3), 1);
     }
 
     private static void restoreIsAChange() {

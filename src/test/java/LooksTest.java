@@ -14,6 +14,8 @@ public final class LooksTest {
         can();
         deeds();
         deedsWithDrafts();
+        deedsWithAllOpen();
+        deedsBackwards();
         deedsWrong();
         count();
         countWrong();
@@ -181,6 +183,11 @@ public final class LooksTest {
             x.draft(draft);
             bothTogether("without cords, DRAFT " + draft, x, dues[draft - 1]);
         }
+        for (int door = 1; door < 10; door++) {
+            x.cord(0, false, door);
+            bothTogether("a cord between two", x, 9);
+        }
+        x.cord(0, false, 10);
         x.cord(3, false, 7);
         bothTogether("one cord", x, 9);
         x.cord(7, true, 3);
@@ -213,6 +220,12 @@ public final class LooksTest {
         x = Setup.withoutCords();
         CHECK.same("three in hall 0", x.can(1 + 32 + 64), 1);
         CHECK.same("four in hall 1", x.can(1 + 2 + 64 + 128), 0);
+        x.draft(2);
+        CHECK.same("three in hall 0 alone with DRAFT 2", x.can(1 + 32 + 64), 0);
+        CHECK.same("two in halls 4 and 5", x.can(8 + 16 + 32), 1);
+        x.join(9, 4, 5);
+        CHECK.same("three in hall 5 alone with DRAFT 2", x.can(16 + 32 + 512), 0);
+        x.join(9, 3, 4);
         x.draft(4);
         CHECK.same("four in hall 1 with DRAFT 4", x.can(1 + 2 + 64 + 128), 1);
         CHECK.same("all with DRAFT 4", x.can(1023), 1);
@@ -270,6 +283,43 @@ public final class LooksTest {
         bothDeeds("half around", x, 1, 3, 6);
     }
 
+    private static void deedsWithAllOpen() {
+        CordDoors x = Setup.withoutCords();
+        x.draft(10);
+        for (int door = 0; door < 10; door++) {
+            x.open(door);
+        }
+        int[] due = {0, 1, 2, 3, 2, 1};
+        for (int hall = 0; hall < 6; hall++) {
+            bothDeeds("all are open", x, 0, hall, due[hall]);
+        }
+        x.walk(1, 5);
+        for (int hall = 0; hall < 6; hall++) {
+            bothDeeds("all are open, from 5", x, 1, hall, due[(hall + 1) % 6]);
+        }
+    }
+
+    private static void deedsBackwards() {
+        CordDoors x = Setup.withoutCords();
+        x.open(5);
+        x.open(4);
+        x.walk(0, 5);
+        x.walk(0, 4);
+        x.keys(0, 8 + 4 + 2);
+        x.shut(5);
+        int[] due = {CordDoors.NOT_FOUND, 6, 4, 2, 0, 1};
+        for (int hall = 0; hall < 6; hall++) {
+            bothDeeds("from 4", x, 0, hall, due[hall]);
+        }
+        x.open(7);
+        x.open(1);
+        bothDeeds("through what is open", x, 0, 1, 5);
+        x.keys(0, 0);
+        x.open(3);
+        x.open(8);
+        bothDeeds("walks alone, to lesser halls", x, 0, 1, 3);
+    }
+
     private static void bothDeeds(String when, CordDoors x, int guest, int hall, int due) {
         String call = when + ": deeds(" + guest + ", " + hall + ", ";
         CHECK.same(call + "0)", x.deeds(guest, hall, 0), due);
@@ -321,6 +371,15 @@ public final class LooksTest {
         x.cord(3, true, 9);
         x.cord(9, true, 3);
         CHECK.same("9 and 3, too", x.count(6), 2);
+        CordDoors neighbours = new CordDoors();
+        neighbours.cord(1, false, 0);
+        CHECK.same("0 and 1", neighbours.count(6), 1);
+        neighbours.cord(9, true, 8);
+        CHECK.same("8 and 9", neighbours.count(6), 2);
+        neighbours.cord(0, true, 9);
+        CHECK.same("9 and 0", neighbours.count(6), 3);
+        neighbours.open(0);
+        CHECK.same("open or shut", neighbours.count(6), 3);
         x.cord(0, false, 4);
         x.open(3);
         CHECK.same("9 holds 3", x.count(11), 2);
