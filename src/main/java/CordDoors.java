@@ -165,10 +165,10 @@ public final class CordDoors {
         int place = 0;
         int done = 0;
         // Each deed takes characters, so the pad's limit bounds their number.
-        while (place < pad.length && done < PAD_LIMIT && !stop.happened()) {
+        for (int number = 0; number < PAD_LIMIT && place < pad.length && !stop.happened(); number++) {
             int answer = runDeedAt(place);
             if (answer < DONE) {
-                stop.remember(answer, done, place);
+                stop.remember(answer, number, place);
             } else {
                 done++;
                 place = pad.placeOfNextDeed(place);
@@ -1026,7 +1026,7 @@ public final class CordDoors {
         /** Puts the sets of doors in line that could be open, if no other doors than these ever are. */
         private void lineUpSets(Loom loom, int everOpen) {
             inLine = 0;
-            for (int openDoors = 0; openDoors <= ALL_DOORS; openDoors++) {
+            for (int openDoors = 0; openDoors <= ALL_DOORS && inLine < SPOTS; openDoors++) {
                 boolean noOther = (openDoors & ~everOpen) == 0;
                 if (noOther && (loom.heldBy(openDoors) & openDoors) == 0) {
                     line[inLine] = openDoors;
