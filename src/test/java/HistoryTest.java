@@ -7,6 +7,7 @@ public final class HistoryTest {
         undoAtMostFour();
         undoLeavesPadAndSnapshot();
         saveAndRestore();
+        saveInPlaceOfTheOneThatWas();
         accountsAreRestored();
         restoreIsAChange();
         looksOfAllKinds();
@@ -133,6 +134,11 @@ public final class HistoryTest {
         }
         CHECK.same("restored", x.restore(), 0);
         CHECK.holds("as at first", Setup.look(x).equals(Setup.look(new CordDoors())));
+    }
+
+    private static void saveInPlaceOfTheOneThatWas() {
+        CordDoors x = new CordDoors();
+        x.save();
         x.open(0);
         x.open(2);
         CHECK.same("save", x.save(), 5);
