@@ -12,14 +12,17 @@ final class Document {
     private static final List<String> LEFT_OUT = List.of("CordDoors", "The public face", "Not promised");
 
     private final Check check;
+    private final boolean there;
     private final Map<String, StringBuilder> unquoted = new LinkedHashMap<>();
     private String section = "";
 
     Document(Check check) throws IOException {
         this.check = check;
-        check.holds("there is " + PLACE, Files.isReadable(PLACE));
-        if (Files.isReadable(PLACE)) {
+        there = Files.isReadable(PLACE);
+        if (there) {
             read(Files.readAllLines(PLACE));
+        } else {
+            System.out.println("there is no " + PLACE + ": what the tests quote is not compared with it");
         }
     }
 
@@ -38,7 +41,7 @@ final class Document {
 
     void enter(String title) {
         section = title;
-        check.holds("the document has a section \"" + title + "\"", unquoted.containsKey(title));
+        check.holds("the document has a section \"" + title + "\"", !there || unquoted.containsKey(title));
     }
 
     String section() {
@@ -49,7 +52,7 @@ final class Document {
     void quote(String words) {
         StringBuilder text = unquoted.getOrDefault(section, new StringBuilder());
         int place = text.indexOf(words);
-        check.holds("\"" + section + "\" says: " + words, place >= 0);
+        check.holds("\"" + section + "\" says: " + words, !there || place >= 0);
         if (place >= 0) {
             text.delete(place, place + words.length());
         }

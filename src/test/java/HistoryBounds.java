@@ -45,6 +45,7 @@ final class HistoryBounds extends Bounds {
         asBefore("guestShuts", x -> x.guestShuts(0, 5));
         asBefore("walk", x -> x.walk(0, 5));
         asBefore("restore", x -> x.restore());
+        accountsAsBefore();
         CordDoors x = busy();
         String before = Setup.look(x);
         x.clear();
@@ -54,6 +55,25 @@ final class HistoryBounds extends Bounds {
         holds("as before the run", Setup.look(x).equals(before));
         same("the pad is not", x.count(13), 1);
         same("why(1) is not", x.why(1), 2);
+    }
+
+    /** A door that shuts by a cord, and one that shuts by a draft. */
+    private void accountsAsBefore() {
+        CordDoors x = new CordDoors();
+        x.open(1);
+        x.open(5);
+        x.draft(1);
+        x.save();
+        String before = Setup.look(x);
+        same("1 by a cord, 5 by a draft", x.open(0), 12);
+        same("by cords", x.count(9), 1);
+        same("by drafts", x.count(10), 1);
+        x.undo();
+        holds("both are undone", Setup.look(x).equals(before));
+        x.open(0);
+        x.restore();
+        same("by cords, restored", x.count(9), 0);
+        same("by drafts, restored", x.count(10), 0);
     }
 
     private void asBefore(String name, Deed change) {

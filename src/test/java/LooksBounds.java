@@ -321,6 +321,14 @@ final class LooksBounds extends Bounds {
         most("one, though all are open", x, 1);
         most("as cords go at first", new CordDoors(), 5);
         most("two fives, each tied to each in it", twoFives(), 2);
+        x = allBetweenTwoHalls();
+        most("all ten", x, 10);
+        x.cord(0, false, 1);
+        x.cord(0, true, 2);
+        most("all but 0", x, 9);
+        x.cord(9, false, 8);
+        x.cord(9, true, 7);
+        most("all but 0 and 9", x, 8);
     }
 
     private void most(String when, CordDoors x, int due) {
@@ -355,6 +363,15 @@ final class LooksBounds extends Bounds {
         same("9 and 2, to which its second cord goes", x.can(512 + 4), 0);
         x = allBetweenTwoHalls();
         same("all of them with DRAFT 10", x.can(1023), 1);
+        x.join(0, 0, 2);
+        x.join(9, 1, 5);
+        x.draft(8);
+        same("nine in hall 0, nine in hall 1", x.can(1023), 0);
+        same("nine in hall 0 alone", x.can(511), 0);
+        same("nine in hall 1 alone", x.can(1022), 0);
+        same("eight in each", x.can(510), 1);
+        x.join(0, 0, 1);
+        x.join(9, 0, 1);
         x.draft(9);
         same("all of them with DRAFT 9", x.can(1023), 0);
         same("nine of them with DRAFT 9", x.can(1022), 1);
@@ -363,6 +380,18 @@ final class LooksBounds extends Bounds {
         same("without the one to which it goes", x.can(1021), 1);
         openAll(x);
         same("what is open is of no account", x.can(1021), 1);
+        tooManyInTheLastHall(Setup.withoutCords());
+    }
+
+    /** Hall 5 is the last one that drafts and sets look at. */
+    private void tooManyInTheLastHall(CordDoors x) {
+        x.draft(1);
+        x.join(7, 4, 5);
+        same("two in halls 4 and 5", x.can(16 + 128), 0);
+        x.join(7, 2, 5);
+        same("two in hall 5 alone", x.can(16 + 128), 0);
+        x.join(7, 2, 3);
+        same("none has two", x.can(16 + 128), 1);
     }
 
     // ---- Promise 22
@@ -400,6 +429,9 @@ final class LooksBounds extends Bounds {
         fewest("no keys", x, 1, 1, NONE);
         x.open(9);
         fewest("no keys, an open one", x, 1, 1, 1);
+        openAll(x);
+        fewest("no keys, all open", x, 1, 1, 1);
+        fewest("all open, its own hall", x, 1, 0, 0);
     }
 
     /** With the keys of 0 to 4 alone each door behind holds the next one, and has to be shut ahead of it. */

@@ -64,9 +64,21 @@ public final class ModelTest {
     }
 
     private int upTo(int most) {
-        // Once in a while a number out of the range.
-        return draws.oneIn(60) ? (draws.oneIn(2) ? -1 - draws.below(40) : most + 1 + draws.below(40))
-            : draws.below(most + 1);
+        return draws.oneIn(60) ? outside(most) : draws.below(most + 1);
+    }
+
+    /** Once in a while a number out of the range: close to it, or anywhere. */
+    private int outside(int most) {
+        switch (draws.below(4)) {
+            case 0:
+                return -1 - draws.below(40);
+            case 1:
+                return most + 1 + draws.below(40);
+            case 2:
+                return draws.oneIn(2) ? Integer.MIN_VALUE + draws.below(most + 1) : Integer.MAX_VALUE;
+            default:
+                return draws.below(1 << 16) << 16 | draws.below(1 << 16);
+        }
     }
 
     private void cord(int door, boolean second, int other) {
