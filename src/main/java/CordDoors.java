@@ -488,8 +488,9 @@ public final class CordDoors {
         }
 
         void hang(int door, int one, int other) {
-            doorsOfHalls[lesserHalls[door]] &= ~(1 << door);
-            doorsOfHalls[greaterHalls[door]] &= ~(1 << door);
+            for (int hall = 0; hall < HALLS; hall++) {
+                doorsOfHalls[hall] = without(doorsOfHalls[hall], door);
+            }
             lesserHalls[door] = Math.min(one, other);
             greaterHalls[door] = Math.max(one, other);
             doorsOfHalls[one] |= 1 << door;
@@ -502,6 +503,10 @@ public final class CordDoors {
 
         int greaterHall(int door) {
             return greaterHalls[door];
+        }
+
+        boolean joins(int door, int hall) {
+            return lesserHalls[door] == hall || greaterHalls[door] == hall;
         }
 
         int otherHall(int door, int hall) {
@@ -737,7 +742,7 @@ public final class CordDoors {
         }
 
         private boolean isAtDoor(int guest, int door) {
-            return has(loom.doorsOf(guests.halls[guest]), door);
+            return loom.joins(door, guests.halls[guest]);
         }
 
         private int reasonNotToOpenAsGuest(int guest, int door) {
@@ -832,7 +837,7 @@ public final class CordDoors {
         }
 
         void record(State state) {
-            states[(oldest + size) % HISTORY_LIMIT].copy(state);
+            slotBehind(size).copy(state);
             if (size < HISTORY_LIMIT) {
                 size++;
             } else {
@@ -843,8 +848,13 @@ public final class CordDoors {
         void takeBack(State into) {
             if (size > 0) {
                 size--;
-                into.copy(states[(oldest + size) % HISTORY_LIMIT]);
+                into.copy(slotBehind(size));
             }
+        }
+
+        /** The slot that is so many behind the oldest state; floorMod answers an index for any number. */
+        private State slotBehind(int number) {
+            return states[Math.floorMod(oldest + number, HISTORY_LIMIT)];
         }
     }
 
@@ -972,22 +982,24 @@ public final class CordDoors {
             reach(start, 0);
             for (int next = 0; next < inLine && next < SPOTS; next++) {
                 int spot = line[next];
+                int deedsSoFar = fewestOf(spot);
                 if (spot % HALLS == goal) {
-                    return fewest[spot];
+                    return deedsSoFar;
                 }
-                goOnFrom(loom, spot, keySet);
+                goOnFrom(loom, spot, keySet, deedsSoFar + 1);
             }
             return NOT_FOUND;
         }
 
-        private void goOnFrom(Loom loom, int spot, int keySet) {
+        private void goOnFrom(Loom loom, int spot, int keySet, int deedsThen) {
             int openDoors = spot / HALLS;
             int hall = spot % HALLS;
-            int deedsThen = fewest[spot] + 1;
-            int doors = loom.doorsOf(hall);
-            int couldOpen = doors & keySet & ~openDoors & ~loom.heldBy(openDoors);
+            int couldOpen = keySet & ~openDoors & ~loom.heldBy(openDoors);
             for (int door = 0; door < DOORS; door++) {
-                if (has(doors & openDoors, door)) {
+                if (!loom.joins(door, hall)) {
+                    continue;
+                }
+                if (has(openDoors, door)) {
                     reach(spot(openDoors, loom.otherHall(door, hall)), deedsThen);
                     reach(spot(without(openDoors, door), hall), deedsThen);
                 } else if (has(couldOpen, door)) {
@@ -996,8 +1008,16 @@ public final class CordDoors {
             }
         }
 
+        private static boolean isSpot(int number) {
+            return number >= 0 && number < SPOTS;
+        }
+
+        private int fewestOf(int spot) {
+            return isSpot(spot) ? fewest[spot] : UNKNOWN;
+        }
+
         private void reach(int spot, int deedsThen) {
-            if (fewest[spot] == UNKNOWN && inLine < SPOTS) {
+            if (isSpot(spot) && fewest[spot] == UNKNOWN && inLine < SPOTS) {
                 fewest[spot] = deedsThen;
                 line[inLine] = spot;
                 inLine++;
@@ -1010,7 +1030,7 @@ public final class CordDoors {
             // Without a key no shut door opens.
             lineUpSets(loom, start / HALLS | keySet);
             for (int next = 0; next < inLine && next < SPOTS; next++) {
-                fewest[spot(line[next], goal)] = 0;
+                begin(spot(line[next], goal));
             }
             int lessened = 1;
             // A way passes no spot twice, so there are fewer rounds than spots.
@@ -1020,7 +1040,13 @@ public final class CordDoors {
                     lessened += lessenAll(loom, line[next], keySet);
                 }
             }
-            return fewest[start] == UNKNOWN ? NOT_FOUND : fewest[start];
+            return fewestOf(start) == UNKNOWN ? NOT_FOUND : fewestOf(start);
+        }
+
+        private void begin(int spot) {
+            if (isSpot(spot)) {
+                fewest[spot] = 0;
+            }
         }
 
         /** Puts the sets of doors in line that could be open, if no other doors than these ever are. */
@@ -1042,13 +1068,15 @@ public final class CordDoors {
             for (int door = 0; door < DOORS; door++) {
                 int one = loom.lesserHall(door);
                 int other = loom.greaterHall(door);
-                int openThen = openDoors;
+                int openThen;
                 if (has(openDoors, door)) {
                     lessened += lessen(spot(openDoors, one), spot(openDoors, other));
                     lessened += lessen(spot(openDoors, other), spot(openDoors, one));
                     openThen = without(openDoors, door);
                 } else if (has(couldOpen, door)) {
                     openThen = loom.afterOpening(openDoors, door);
+                } else {
+                    continue;
                 }
                 lessened += lessen(spot(openDoors, one), spot(openThen, one));
                 lessened += lessen(spot(openDoors, other), spot(openThen, other));
@@ -1056,8 +1084,9 @@ public final class CordDoors {
             return lessened;
         }
 
+        /** Answers 1 if the number of a spot became less by a deed that leads to the next one, otherwise 0. */
         private int lessen(int spot, int next) {
-            if (fewest[next] + 1 >= fewest[spot]) {
+            if (!isSpot(spot) || !isSpot(next) || fewest[next] + 1 >= fewest[spot]) {
                 return 0;
             }
             fewest[spot] = fewest[next] + 1;
